@@ -159,7 +159,8 @@ public final class FlashMap {
         if (!hasRoom()) {
             openBlock();
             if (erasedBlocks() < spare) {
-                reclaimBlock();
+                int block = emptiestFullBlock();
+                reclaim(block);
             }
         }
         program(p, newKind, value);
@@ -189,25 +190,6 @@ public final class FlashMap {
         return count;
     }
 
-    /**
-     * Erases one full block, after its live records have moved to the block just opened. Only
-     * spare - 1 blocks are erased then, so at least 5 full ones share at most 12 live records: the
-     * emptiest has at most 2, and 2 erased pages or more are left in the open block.
-     */
-    private void reclaimBlock() {
-        int block = emptiestFullBlock();
-        if (block == NOWHERE) {
-            return;
-        }
-        int first = block * BLOCK_PAGES;
-        for (int at = first; at < first + BLOCK_PAGES; at++) {
-            if (isLive(at)) {
-                program(owner[at], kind[at], content[at]);
-            }
-        }
-        eraseBlock(block);
-    }
-
     private int emptiestFullBlock() {
         int best = NOWHERE;
         int fewest = BLOCK_PAGES + 1;
@@ -223,21 +205,34 @@ public final class FlashMap {
 
     private int liveIn(int block) {
         int count = 0;
-        int first = block * BLOCK_PAGES;
-        for (int at = first; at < first + BLOCK_PAGES; at++) {
-            if (isLive(at)) {
+        for (int p = 0; p < LOGICAL_PAGES; p++) {
+            if (isIn(newest[p], block)) {
                 count++;
             }
         }
         return count;
     }
 
-    private boolean isLive(int at) {
-        return isRecord(at) && newest[owner[at]] == at;
+    private boolean isIn(int at, int block) {
+        return at != NOWHERE && at / BLOCK_PAGES == block;
     }
 
-    private boolean isRecord(int at) {
-        return kind[at] == VALUE || kind[at] == LACK;
+    /**
+     * Moves the live records of a full block to the block just opened, and erases the full one.
+     * There is always room: only spare - 1 blocks are erased at this moment, so at least 5 full
+     * ones share at most 12 live records, and the emptiest has at most 2.
+     */
+    private void reclaim(int block) {
+        if (block == NOWHERE) {
+            return;
+        }
+        for (int p = 0; p < LOGICAL_PAGES; p++) {
+            int at = newest[p];
+            if (isIn(at, block)) {
+                program(p, kind[at], content[at]);
+            }
+        }
+        eraseBlock(block);
     }
 
     private void eraseBlock(int block) {
@@ -262,7 +257,7 @@ public final class FlashMap {
         stamp[at] = nextStamp;
         programmed[active]++;
         nextStamp++;
-        if (isRecord(at)) {
+        if (newKind != SPOILED) {
             newest[p] = at;
         }
     }
@@ -273,7 +268,7 @@ public final class FlashMap {
             if (kind[at] != ERASED) {
                 programmed[at / BLOCK_PAGES]++;
             }
-            if (isRecord(at)) {
+            if (kind[at] == VALUE || kind[at] == LACK) {
                 takeIn(at);
             }
         }
