@@ -4,6 +4,9 @@ import java.util.Random;
 /**
  * Runs of 512 calls, always the same ones, beside a plain model of the document. After every call
  * it also looks inside, since nothing outside shows whether the spare blocks are kept in hand.
+ *
+ * In every second run it asks for the whole state after each call. Those runs go beyond the 512 calls
+ * of the document, which is more than it promises; the other runs keep to it.
  */
 public final class RandomRunsTest {
     private static final int RUNS = 6000;
@@ -181,7 +184,9 @@ public final class RandomRunsTest {
             for (int call = 1; call <= CALLS && wrong < 20; call++) {
                 String at = "run " + run + ", call " + call + ": ";
                 test.oneCall(at);
-                test.wholeState(at);
+                if (run % 2 == 0) {
+                    test.wholeState(at);
+                }
                 test.blocksInHand(at, kind);
             }
         }

@@ -82,6 +82,22 @@ public final class SentencesTest {
         return x;
     }
 
+    /** The same state, but older values of every page lie on the flash, and the lacks are trims. */
+    private static FlashMap wornMapOf(int spare, Integer[] state) {
+        FlashMap x = new FlashMap(spare);
+        for (int p = 11; p >= 0; p--) {
+            x.write(p, -1000 - p);
+        }
+        for (int p = 0; p < 12; p++) {
+            if (state[p] == null) {
+                x.trim(p);
+            } else {
+                x.write(p, state[p]);
+            }
+        }
+        return x;
+    }
+
     private static int usedIn(Integer[] state) {
         int count = 0;
         for (Integer value : state) {
@@ -126,10 +142,13 @@ public final class SentencesTest {
         return field.get(x);
     }
 
-    private static void setNextStamp(FlashMap x, long to) throws ReflectiveOperationException {
-        Field field = FlashMap.class.getDeclaredField("nextStamp");
-        field.setAccessible(true);
-        field.setLong(x, to);
+    /**
+     * No answer shows whether the power went. So this makes the working memory say, against the flash,
+     * that page 1 has the value of page 0: has(1) is true then until a power cut loses that memory.
+     */
+    private static void markWorkingMemory(FlashMap x) throws ReflectiveOperationException {
+        int[] newest = (int[]) inside(x, "newest");
+        newest[1] = newest[0];
     }
 
     private static int[] flashKinds(FlashMap x) throws ReflectiveOperationException {
@@ -304,17 +323,21 @@ public final class SentencesTest {
         for (int i = 0; i < answers.length; i++) {
             int p = i * 7 % 12;
             int q = i * 5 % 11;
-            switch (i * i % 61 % 11) {
-                case 0, 1 -> answers[i] = x.write(p, i * 1000003);
+            // 17 calls in turn, so that each kind of call meets every page and fill level.
+            switch (i % 17) {
+                case 0, 4, 7, 12 -> answers[i] = x.write(p, i * 1000003);
+                case 1 -> answers[i] = x.total();
                 case 2 -> answers[i] = x.torn(q, i);
-                case 3 -> answers[i] = x.trim(q);
-                case 4 -> answers[i] = x.powerCut();
-                case 5 -> answers[i] = x.has(q) ? 1 : 0;
-                case 6 -> answers[i] = x.read(p);
-                case 7 -> answers[i] = x.nextUsed(q);
-                case 8 -> answers[i] = x.total();
-                case 9 -> answers[i] = x.exchange(p, q);
-                default -> answers[i] = x.fill(p, q / 2, q);
+                case 3, 14 -> answers[i] = x.read(p);
+                case 5 -> answers[i] = x.exchange(p, q);
+                case 6 -> answers[i] = x.powerCut();
+                case 8 -> answers[i] = x.trim(q);
+                case 9 -> answers[i] = x.has(q) ? 1 : 0;
+                case 10 -> answers[i] = x.nextUsed(q);
+                case 11 -> answers[i] = x.used();
+                case 13 -> answers[i] = x.fill(p, q / 2, q);
+                case 15 -> answers[i] = x.torn(p, i);
+                default -> answers[i] = x.total();
             }
         }
         return answers;
@@ -353,38 +376,43 @@ public final class SentencesTest {
         for (int p = 0; p < 12; p++) {
             FlashMap x = mapOf(1, EVEN);
             int before = programmedPages(x);
-            setNextStamp(x, 1000000);
+            markWorkingMemory(x);
             x.torn(p, 5);
             due("torn(" + p + "), flash pages spoiled", programmedPages(x) - before, 1);
-            due("torn(" + p + "), working memory kept", nextStampIs(x, 1000000), false);
+            due("torn(" + p + "), working memory kept", x.has(1), false);
         }
-    }
-
-    private static boolean nextStampIs(FlashMap x, long stamp) throws ReflectiveOperationException {
-        return (Long) inside(x, "nextStamp") == stamp;
     }
 
     private static void tornChangesNoValue() {
         for (Integer[] state : STATES) {
             for (int p = 0; p < 12; p++) {
                 for (int value : EDGE_VALUES) {
+                    String call = "torn(" + p + ", " + value + ")";
                     FlashMap x = mapOf(2, state);
                     x.torn(p, value);
-                    dueStateOnFlash("torn(" + p + ", " + value + ")", x, state);
+                    dueStateOnFlash(call, x, state);
+                    FlashMap worn = wornMapOf(2, state);
+                    worn.torn(p, value);
+                    dueStateOnFlash("worn, " + call, worn, state);
                 }
             }
         }
     }
 
-    /** Far more torn writes than flash pages, and none of them takes room for good. */
+    /** Far more torn writes than flash pages, and none of them takes room for good from the writes. */
     private static void tornOftenChangesNoValue() {
-        for (Integer[] state : STATES) {
+        for (Integer[] start : STATES) {
             for (int spare = 1; spare <= 3; spare++) {
+                Integer[] state = start.clone();
                 FlashMap x = mapOf(spare, state);
                 for (int i = 0; i < 200; i++) {
                     x.torn(i % 12, i);
                     int p = i * 5 % 12;
                     due("read(" + p + ") after torn " + i, x.read(p), state[p] == null ? 0 : state[p]);
+                    if (i % 50 == 49) {
+                        due("write(" + p + ") after torn " + i, x.write(p, i), had(state, p));
+                        state[p] = i;
+                    }
                 }
                 dueStateOnFlash("many torn", x, state);
             }
@@ -397,14 +425,13 @@ public final class SentencesTest {
         }
     }
 
-    /** No answer shows a power cut, so this looks whether the working memory and the flash are left alone. */
     private static void tornOutsideKeepsThePower() throws ReflectiveOperationException {
         for (int p : OUTSIDE) {
             FlashMap x = mapOf(1, EVEN);
             int[] before = flashKinds(x);
-            setNextStamp(x, 1000000);
+            markWorkingMemory(x);
             x.torn(p, 5);
-            due("torn(" + p + "), working memory kept", nextStampIs(x, 1000000), true);
+            due("torn(" + p + "), working memory kept", x.has(1), true);
             due("torn(" + p + "), flash left alone", Arrays.equals(before, flashKinds(x)), true);
         }
     }
@@ -458,13 +485,19 @@ public final class SentencesTest {
                 dueStateOnFlash("trim(" + p + ")", x, left);
                 x.torn(p, 3);
                 dueState("torn after trim(" + p + ")", x, left);
-                int other = (p + 1) % 12;
-                for (int i = 0; i < 75; i++) {
-                    x.write(other, i);
-                    x.powerCut();
-                    due("has(" + p + ") after trim and write " + i, x.has(p), false);
-                }
+                dueStaysAway(x, p);
             }
+        }
+    }
+
+    /** Every fourth write goes to a seldom page, so that every block holds something and all get reclaimed. */
+    private static void dueStaysAway(FlashMap x, int p) {
+        for (int i = 0; i < 120; i++) {
+            int often = (p + 1) % 12;
+            int seldom = (p + 2 + i / 4 % 10) % 12;
+            x.write(i % 4 == 3 ? seldom : often, i);
+            x.powerCut();
+            due("has(" + p + ") after trim and write " + i, x.has(p), false);
         }
     }
 
@@ -473,19 +506,24 @@ public final class SentencesTest {
     private static void powerCutChangesNoValue() throws ReflectiveOperationException {
         for (Integer[] state : STATES) {
             FlashMap x = mapOf(1, state);
+            FlashMap worn = wornMapOf(1, state);
             for (int i = 0; i < 5; i++) {
                 x.powerCut();
                 dueState("powerCut()", x, state);
+                worn.powerCut();
+                dueState("worn, powerCut()", worn, state);
             }
-            setNextStamp(x, 1000000);
-            x.powerCut();
-            due("working memory kept", nextStampIs(x, 1000000), false);
         }
+        FlashMap marked = mapOf(1, EVEN);
+        markWorkingMemory(marked);
+        marked.powerCut();
+        due("working memory kept", marked.has(1), false);
     }
 
     private static void powerCutAnswers() {
         for (Integer[] state : STATES) {
             due("powerCut()", mapOf(1, state).powerCut(), usedIn(state));
+            due("worn, powerCut()", wornMapOf(1, state).powerCut(), usedIn(state));
         }
         FlashMap x = new FlashMap(1);
         for (int p = 0; p < 12; p++) {
@@ -513,8 +551,10 @@ public final class SentencesTest {
     private static void hasInside() {
         for (Integer[] state : STATES) {
             FlashMap x = mapOf(1, state);
+            FlashMap worn = wornMapOf(1, state);
             for (int p = 0; p < 12; p++) {
                 due("has(" + p + ")", x.has(p), state[p] != null);
+                due("worn, has(" + p + ")", worn.has(p), state[p] != null);
             }
         }
     }
@@ -577,8 +617,10 @@ public final class SentencesTest {
     private static void smallestAbove() {
         for (Integer[] state : STATES) {
             FlashMap x = mapOf(1, state);
+            FlashMap worn = wornMapOf(1, state);
             for (int p = -1; p <= 12; p++) {
                 due("nextUsed(" + p + ")", x.nextUsed(p), nextUsedIn(state, p));
+                due("worn, nextUsed(" + p + ")", worn.nextUsed(p), nextUsedIn(state, p));
             }
         }
         for (int only = 0; only < 12; only++) {
@@ -657,12 +699,16 @@ public final class SentencesTest {
         for (Integer[] state : STATES) {
             for (int p = 0; p < 12; p++) {
                 for (int q = 0; q < 12; q++) {
-                    FlashMap x = mapOf(1, state);
-                    x.exchange(p, q);
+                    String call = "exchange(" + p + ", " + q + ")";
                     Integer[] changed = state.clone();
                     changed[p] = state[q];
                     changed[q] = state[p];
-                    dueStateOnFlash("exchange(" + p + ", " + q + ")", x, changed);
+                    FlashMap x = mapOf(1, state);
+                    x.exchange(p, q);
+                    dueStateOnFlash(call, x, changed);
+                    FlashMap worn = wornMapOf(1, state);
+                    worn.exchange(p, q);
+                    dueStateOnFlash("worn, " + call, worn, changed);
                 }
             }
         }
@@ -750,15 +796,23 @@ public final class SentencesTest {
             for (int p = 0; p < 12; p++) {
                 for (int q = 0; q < 12; q++) {
                     for (int r = q; r < 12; r++) {
-                        FlashMap x = mapOf(1, state);
-                        x.fill(p, q, r);
-                        Integer[] changed = state.clone();
-                        Arrays.fill(changed, q, r + 1, state[p]);
-                        dueStateOnFlash("fill(" + p + ", " + q + ", " + r + ")", x, changed);
+                        dueFilled(state, p, q, r);
                     }
                 }
             }
         }
+    }
+
+    private static void dueFilled(Integer[] state, int p, int q, int r) {
+        String call = "fill(" + p + ", " + q + ", " + r + ")";
+        Integer[] changed = state.clone();
+        Arrays.fill(changed, q, r + 1, state[p]);
+        FlashMap x = mapOf(1, state);
+        x.fill(p, q, r);
+        dueStateOnFlash(call, x, changed);
+        FlashMap worn = wornMapOf(1, state);
+        worn.fill(p, q, r);
+        dueStateOnFlash("worn, " + call, worn, changed);
     }
 
     private static void fillOutside() {
