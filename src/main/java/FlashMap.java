@@ -292,6 +292,10 @@ public final class FlashMap {
 
     private void takeIn(int at) {
         int p = owner[at];
+        // The flash is the one place from which an index comes unlooked at.
+        if (isOutside(p)) {
+            return;
+        }
         if (newest[p] == NOWHERE || stamp[newest[p]] < stamp[at]) {
             newest[p] = at;
         }

@@ -2,26 +2,32 @@ import java.lang.reflect.Field;
 import java.util.Random;
 
 /**
- * Runs of 512 calls, always the same ones, beside a plain model of the document. After every call
- * it also looks inside, since nothing outside shows whether the spare blocks are kept in hand.
+ * Runs of 512 calls, always the same ones, beside a plain model of the document; the last calls of each
+ * ask for every page. After every call it also looks inside, since nothing outside shows whether the
+ * spare blocks are kept in hand.
  *
- * In every second run it asks for the whole state after each call. Those runs go beyond the 512 calls
- * of the document, which is more than it promises; the other runs keep to it.
+ * In every second run total() is asked after each call: the values are random, so that a wrong one shows
+ * there at once. The other runs leave a change unseen for longer, and have room for more changes.
  */
 public final class RandomRunsTest {
     private static final int RUNS = 6000;
     private static final int CALLS = 512;
+    private static final int CALLS_FOR_WHOLE_STATE = 24;
+    private static final int MOST_WRONG = 20;
     private static final int[] EDGES = {-1, 12, Integer.MIN_VALUE, Integer.MAX_VALUE};
     private static int wrong = 0;
 
     private final boolean[] has = new boolean[12];
     private final int[] value = new int[12];
+    private final int run;
     private final Random random;
     private final FlashMap x;
     private final int spare;
     private final int[] weights = new int[11];
+    private int calls = 0;
 
     private RandomRunsTest(int run) {
+        this.run = run;
         random = new Random(run);
         int asked = random.nextInt(6) - 1;
         x = new FlashMap(asked);
@@ -129,41 +135,45 @@ public final class RandomRunsTest {
     }
 
     private void due(String call, long got, long want) {
+        calls++;
         if (got != want) {
-            wrong++;
-            System.out.println(call + " answered " + got + ", due is " + want);
+            tellWrong(call + " answered " + got + ", due is " + want);
         }
     }
 
-    private void oneCall(String at) {
+    private void tellWrong(String words) {
+        wrong++;
+        System.out.println("run " + run + ", call " + calls + ": " + words);
+    }
+
+    private void oneCall() {
         int p = anyPage();
         int q = anyPage();
         int r = anyPage();
         int v = random.nextInt();
         switch (anyCall()) {
-            case 0 -> due(at + "write(" + p + ", " + v + ")", x.write(p, v), write(p, v));
-            case 1 -> due(at + "torn(" + p + ", " + v + ")", x.torn(p, v), inside(p) ? p : -1);
-            case 2 -> due(at + "trim(" + p + ")", x.trim(p), trim(p));
-            case 3 -> due(at + "powerCut()", x.powerCut(), used());
-            case 4 -> due(at + "has(" + p + ")", x.has(p) ? 1 : 0, inside(p) ? count(p) : 0);
-            case 5 -> due(at + "read(" + p + ")", x.read(p), inside(p) ? value[p] : 0);
-            case 6 -> due(at + "used()", x.used(), used());
-            case 7 -> due(at + "nextUsed(" + p + ")", x.nextUsed(p), nextUsed(p));
-            case 8 -> due(at + "total()", x.total(), total());
-            case 9 -> due(at + "exchange(" + p + ", " + q + ")", x.exchange(p, q), exchange(p, q));
-            default -> due(at + "fill(" + p + ", " + q + ", " + r + ")", x.fill(p, q, r), fill(p, q, r));
+            case 0 -> due("write(" + p + ", " + v + ")", x.write(p, v), write(p, v));
+            case 1 -> due("torn(" + p + ", " + v + ")", x.torn(p, v), inside(p) ? p : -1);
+            case 2 -> due("trim(" + p + ")", x.trim(p), trim(p));
+            case 3 -> due("powerCut()", x.powerCut(), used());
+            case 4 -> due("has(" + p + ")", x.has(p) ? 1 : 0, inside(p) ? count(p) : 0);
+            case 5 -> due("read(" + p + ")", x.read(p), inside(p) ? value[p] : 0);
+            case 6 -> due("used()", x.used(), used());
+            case 7 -> due("nextUsed(" + p + ")", x.nextUsed(p), nextUsed(p));
+            case 8 -> due("total()", x.total(), total());
+            case 9 -> due("exchange(" + p + ", " + q + ")", x.exchange(p, q), exchange(p, q));
+            default -> due("fill(" + p + ", " + q + ", " + r + ")", x.fill(p, q, r), fill(p, q, r));
         }
     }
 
-    /** The queries change nothing, so asking all of them after each call tells the whole state. */
-    private void wholeState(String at) {
+    private void wholeState() {
         for (int p = 0; p < 12; p++) {
-            due(at + "after it has(" + p + ")", x.has(p) ? 1 : 0, count(p));
-            due(at + "after it read(" + p + ")", x.read(p), value[p]);
+            due("has(" + p + ") at the end", x.has(p) ? 1 : 0, count(p));
+            due("read(" + p + ") at the end", x.read(p), value[p]);
         }
     }
 
-    private void blocksInHand(String at, Field kindField) throws ReflectiveOperationException {
+    private void blocksInHand(Field kindField) throws ReflectiveOperationException {
         int[] kind = (int[]) kindField.get(x);
         int erased = 0;
         for (int block = 0; block < 8; block++) {
@@ -173,22 +183,29 @@ public final class RandomRunsTest {
             }
             erased += sum == 0 ? 1 : 0;
         }
-        due(at + "fewer erased blocks than spare", erased < spare ? 1 : 0, 0);
+        if (erased < spare) {
+            tellWrong(erased + " erased blocks are left, fewer than " + spare);
+        }
+    }
+
+    private void wholeRun(Field kindField) throws ReflectiveOperationException {
+        boolean totals = run % 2 == 0;
+        int step = totals ? 2 : 1;
+        while (calls + step <= CALLS - CALLS_FOR_WHOLE_STATE && wrong < MOST_WRONG) {
+            oneCall();
+            if (totals) {
+                due("total() after it", x.total(), total());
+            }
+            blocksInHand(kindField);
+        }
+        wholeState();
     }
 
     public static void main(String[] args) throws ReflectiveOperationException {
         Field kind = FlashMap.class.getDeclaredField("kind");
         kind.setAccessible(true);
-        for (int run = 0; run < RUNS && wrong < 20; run++) {
-            RandomRunsTest test = new RandomRunsTest(run);
-            for (int call = 1; call <= CALLS && wrong < 20; call++) {
-                String at = "run " + run + ", call " + call + ": ";
-                test.oneCall(at);
-                if (run % 2 == 0) {
-                    test.wholeState(at);
-                }
-                test.blocksInHand(at, kind);
-            }
+        for (int run = 0; run < RUNS && wrong < MOST_WRONG; run++) {
+            new RandomRunsTest(run).wholeRun(kind);
         }
         System.out.println(wrong == 0 ? "all answers are as due" : wrong + " answers are not as due");
         if (wrong != 0) {
